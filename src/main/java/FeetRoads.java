@@ -186,7 +186,7 @@ public final class FeetRoads {
         switch (what) {
             case 0: return here.placeOf(person);
             case 1: return here.soleOf(person);
-            case 2: return here.roadsOpenTo(here.soleOf(person));
+            case 2: return here.roadsOpenTo(person);
             default: return BAD;
         }
     }
@@ -612,10 +612,6 @@ public final class FeetRoads {
             return cells[LONG_AT + road];
         }
 
-        int endsOf(int road) {
-            return 1 << oneEnd(road) | 1 << otherEnd(road);
-        }
-
         boolean isEnd(int road, int place) {
             return oneEnd(road) == place || otherEnd(road) == place;
         }
@@ -668,10 +664,10 @@ public final class FeetRoads {
             return soles;
         }
 
-        int roadsOpenTo(int sole) {
+        int roadsOpenTo(int person) {
             int open = 0;
             for (int road = 0; road < roads(); road++) {
-                if (opens(road, sole, today())) {
+                if (opens(road, soleOf(person), today())) {
                     open |= 1 << road;
                 }
             }
@@ -992,6 +988,7 @@ public final class FeetRoads {
         private static final int PLACES = Land.MOST_PLACES, ROADS = Land.MOST_ROADS;
 
         private final Land land;
+        private final int[] ends;
         private final int[] weights;
         private final int[] far;
         private final int[] farOfOther;
@@ -1001,6 +998,7 @@ public final class FeetRoads {
 
         Seer(Land land) {
             this.land = land;
+            ends = new int[ROADS];
             weights = new int[ROADS];
             far = new int[PLACES];
             farOfOther = new int[PLACES];
@@ -1010,7 +1008,8 @@ public final class FeetRoads {
         }
 
         int reachOf(int person) {
-            return flood(land.placeOf(person), openTo(person));
+            noteEnds();
+            return flood(land.placeOf(person), land.roadsOpenTo(person));
         }
 
         int wayTo(int person, int place) {
@@ -1019,13 +1018,13 @@ public final class FeetRoads {
         }
 
         int ledTo(int person, int other, int place) {
-            weighOpen(openTo(person) | openTo(other));
+            weighOpen(land.roadsOpenTo(person) | land.roadsOpenTo(other));
             measure(land.placeOf(person), far);
             return noneIfFar(far[place]);
         }
 
         int introducedTo(int person, int place, int what) {
-            weighIntroductions(openTo(person));
+            weighIntroductions(land.roadsOpenTo(person));
             measure(land.placeOf(person), far);
             if (far[place] >= FAR) {
                 return NONE;
@@ -1059,11 +1058,11 @@ public final class FeetRoads {
          */
         int roundOf(int person) {
             int home = land.placeOf(person);
-            int open = openTo(person);
+            int open = land.roadsOpenTo(person);
             measureSpans(open);
             int wantedCount = listWanted(open);
             int all = (1 << wantedCount) - 1;
-            Arrays.fill(costs, 0, (all + 1) * PLACES, FAR);
+            Arrays.fill(costs, FAR);
             costs[home] = 0;
             for (int done = 0; done < all; done++) {
                 for (int k = 0; k < wantedCount; k++) {
@@ -1082,9 +1081,10 @@ public final class FeetRoads {
         /** The fewest roads, of several the least as a number: so the first of its count wins. */
         int barsAgainst(int person, int place) {
             int from = land.placeOf(person);
-            int open = openTo(person);
+            int open = land.roadsOpenTo(person);
             int best = open;
             int fewest = ROADS + 1;
+            noteEnds();
             for (int barred = 0; barred < 1 << land.roads(); barred++) {
                 boolean canBeBetter = (barred & ~open) == 0 && Integer.bitCount(barred) < fewest;
                 if (canBeBetter && !reaches(from, open & ~barred, place)) {
@@ -1113,9 +1113,10 @@ public final class FeetRoads {
 
         long snowOdds(int person, int place, int c, int what) {
             int from = land.placeOf(person);
-            int open = openTo(person);
+            int open = land.roadsOpenTo(person);
             int openCount = Integer.bitCount(open);
             long above = 0;
+            noteEnds();
             for (int clear = 0; clear < 1 << land.roads(); clear++) {
                 if ((clear & ~open) == 0 && reaches(from, clear, place)) {
                     int clearCount = Integer.bitCount(clear);
@@ -1128,10 +1129,6 @@ public final class FeetRoads {
                 return NONE;
             }
             return what == 0 ? above / common : below / common;
-        }
-
-        private int openTo(int person) {
-            return land.roadsOpenTo(land.soleOf(person));
         }
 
         private static int noneIfFar(int length) {
@@ -1163,7 +1160,7 @@ public final class FeetRoads {
         }
 
         private void measureWays(int person, int[] into) {
-            weighOpen(openTo(person));
+            weighOpen(land.roadsOpenTo(person));
             measure(land.placeOf(person), into);
         }
 
@@ -1228,6 +1225,13 @@ public final class FeetRoads {
             }
         }
 
+        /** Floods come by the hundred, so the ends are told as sets of places once ahead of them. */
+        private void noteEnds() {
+            for (int road = 0; road < land.roads(); road++) {
+                ends[road] = 1 << land.oneEnd(road) | 1 << land.otherEnd(road);
+            }
+        }
+
         private boolean reaches(int from, int usable, int place) {
             return (flood(from, usable) >> place & 1) == 1;
         }
@@ -1238,8 +1242,8 @@ public final class FeetRoads {
             for (int turn = 0; turn < PLACES && changed; turn++) {
                 int before = wet;
                 for (int road = 0; road < land.roads(); road++) {
-                    if ((usable >> road & 1) == 1 && (wet & land.endsOf(road)) != 0) {
-                        wet |= land.endsOf(road);
+                    if ((usable >> road & 1) == 1 && (wet & ends[road]) != 0) {
+                        wet |= ends[road];
                     }
                 }
                 changed = wet != before;

@@ -631,6 +631,7 @@ public final class PromiseTest {
     x.heels(0);
     x.day();
     Due.is("restore again", x.restore(1), 1);
+    Due.is("no act after restoring over acts", x.undo(), STATE);
     Due.is("restored sole", x.person(0, 1), 0);
     Due.is("restored meeting", x.met(1, 1, 0), 2);
     Due.is("restored day", x.count(5), 0);
