@@ -522,8 +522,7 @@ public final class FeetRoads {
         private static final int SOLE_AT = PLACE_AT + MOST_PEOPLE;
         private static final int TIMES_AT = SOLE_AT + MOST_PEOPLE;
         private static final int LAST_AT = TIMES_AT + MEETINGS;
-        private static final int LAST_BUT_ONE_AT = LAST_AT + MEETINGS;
-        static final int CELLS = LAST_BUT_ONE_AT + MEETINGS;
+        static final int CELLS = LAST_AT + MEETINGS;
 
         final int[] cells;
 
@@ -641,17 +640,18 @@ public final class FeetRoads {
             return kindOf(road) < Kinds.HIGHWAY;
         }
 
-        /** The day of the meeting that must not have faded; it counts only where there were meetings enough. */
-        int dayThatCounts(int road, int sole) {
-            return cells[(kindOf(road) == Kinds.OLD ? LAST_BUT_ONE_AT : LAST_AT) + meeting(road, sole)];
+        /** The last day on which a road of that kind opens to a sole that it met, if it met it often enough. */
+        int lastDayOpen(int road, int sole) {
+            int daysKept = kindOf(road) == Kinds.OLD ? 2 * fade() : fade();
+            return lastMet(road, sole) + daysKept;
         }
 
         boolean opens(int road, int sole, int onDay) {
             if (!opensByMeeting(road)) {
                 return true;
             }
-            int needed = kindOf(road) == Kinds.LANE ? 1 : 2;
-            return timesMet(road, sole) >= needed && onDay - dayThatCounts(road, sole) <= fade();
+            int needed = kindOf(road) == Kinds.NARROW ? 2 : 1;
+            return timesMet(road, sole) >= needed && onDay <= lastDayOpen(road, sole);
         }
 
         int solesOf(int road, int onDay) {
@@ -745,7 +745,6 @@ public final class FeetRoads {
         private void meetToday(int road, int sole) {
             int meeting = meeting(road, sole);
             cells[TIMES_AT + meeting]++;
-            cells[LAST_BUT_ONE_AT + meeting] = cells[LAST_AT + meeting];
             cells[LAST_AT + meeting] = today();
         }
 
@@ -1139,8 +1138,7 @@ public final class FeetRoads {
             int soonest = FAR;
             for (int sole = 0; sole < land.people(); sole++) {
                 if (land.opens(road, sole, land.today())) {
-                    int days = land.dayThatCounts(road, sole) + land.fade() + 1 - land.today();
-                    soonest = Math.min(soonest, days);
+                    soonest = Math.min(soonest, land.lastDayOpen(road, sole) + 1 - land.today());
                 }
             }
             return soonest;

@@ -45,11 +45,10 @@ final class PlainModel {
 
     boolean opens(int road, int sole, int ahead) {
       List<Integer> days = days(road, sole);
-      long lately = days.stream().filter(d -> d >= day + ahead - fade).count();
       return switch (roads.get(road).kind) {
-        case 1 -> lately >= 1;
-        case 2 -> lately >= 1 && days.size() >= 2;
-        case 3 -> lately >= 2;
+        case 1 -> days.stream().anyMatch(d -> d >= day + ahead - fade);
+        case 2 -> days.stream().anyMatch(d -> d >= day + ahead - fade) && days.size() >= 2;
+        case 3 -> days.stream().anyMatch(d -> d >= day + ahead - 2 * fade);
         default -> true;
       };
     }
@@ -387,7 +386,7 @@ final class PlainModel {
 
   int forgets() {
     if (land == null) return STATE;
-    for (int d = 1; d <= 31; d++) {
+    for (int d = 1; d <= 61; d++) {
       for (int r = 0; r < land.roads.size(); r++) {
         for (int s : solesOf(r, 0)) if (!land.opens(r, s, d)) return d;
       }

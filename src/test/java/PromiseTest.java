@@ -292,23 +292,29 @@ public final class PromiseTest {
 
   private static void opensOld() {
     FeetRoads x = Due.landOf("f2,2;o0,1,1;p0,1;p0,0;");
+    Due.is("an old one that never met one", x.road(0, 3), 1);
     x.day();
     x.lead(0, 1, 0);
-    Due.is("an old one that met once", x.road(0, 3), 1);
+    Due.is("an old one that met once", x.road(0, 3), 3);
+    Due.is("it met once", x.met(0, 1, 0), 1);
+    days(x, 4);
+    Due.is("an old one, twice FADE days later", x.road(0, 3), 3);
+    Due.is("an old one, twice FADE days later, by the person", x.person(1, 2), 1);
+    x.walk(1, 0);
     x.day();
-    x.walk(0, 0);
-    x.lead(0, 1, 0);
-    Due.is("both are not at one end", x.person(0, 0) * 10 + x.person(1, 0), 1);
-    x.walk(0, 0);
-    x.lead(0, 1, 0);
-    Due.is("an old one that met twice lately", x.road(0, 3), 3);
-    x.day();
-    Due.is("an old one, FADE days after the first", x.road(0, 3), 3);
-    x.day();
-    Due.is("an old one, the first of two faded", x.road(0, 3), 1);
+    Due.is("an old one, one day more", x.road(0, 3), 2);
+    Due.is("walk an old one that forgot", x.walk(0, 0), STATE);
+    days(x, 3);
+    Due.is("an old one: the last meeting counts", x.road(0, 3), 2);
     x.day();
     Due.is("an old one that forgot", x.road(0, 3), 0);
     Due.is("an old one still counts", x.met(0, 1, 0), 2);
+  }
+
+  private static void days(FeetRoads x, int number) {
+    for (int k = 0; k < number; k++) {
+      x.day();
+    }
   }
 
   private static void lead() {
@@ -354,10 +360,11 @@ public final class PromiseTest {
     Due.is("heels are acts", x.count(7), 3);
     x.walk(2, 3);
     Due.is("a highway is counted", x.heels(2), 1);
-    FeetRoads y = Due.landOf("f9,2;o0,1,1;p0,1;p0,1;");
+    FeetRoads y = Due.landOf("f9,2;n0,1,1;o0,1,1;p0,3;p0,3;");
     y.heels(0);
+    Due.is("an old one does not know new heels", y.road(1, 3), 2);
     y.lead(1, 0, 0);
-    Due.is("an old one does not count what was before", y.road(0, 3), 2);
+    Due.is("a narrow one does not count what was before", y.road(0, 3), 2);
   }
 
   private static void day() {
@@ -497,9 +504,13 @@ public final class PromiseTest {
     Due.is("forgets: the others", x.forgets(), 3);
     x.walk(0, 1);
     x.walk(0, 0);
-    Due.is("forgets: the old one by the meeting ahead of the last", x.forgets(), 3);
-    x.walk(0, 2);
     Due.is("forgets: all met today", x.forgets(), 4);
+    FeetRoads old = Due.landOf("f3,2;o0,1,1;p0,1;");
+    Due.is("forgets: an old one, behind twice FADE", old.forgets(), 7);
+    days(old, 6);
+    Due.is("forgets: an old one, tomorrow", old.forgets(), 1);
+    old.day();
+    Due.is("forgets: an old one that forgot", old.forgets(), NONE);
     x.walk(0, 3);
     x.heels(0);
     Due.is("forgets nothing", x.forgets(), NONE);
@@ -516,12 +527,14 @@ public final class PromiseTest {
     x = Due.landOf(TOWN);
     Due.is("nobody now", x.nobody(0), 0);
     Due.is("nobody in 3 days", x.nobody(3), 0);
-    Due.is("nobody in 4 days", x.nobody(4), 103);
+    Due.is("nobody in 4 days, but an old one", x.nobody(4), 99);
+    Due.is("nobody in 6 days, but an old one", x.nobody(6), 99);
+    Due.is("nobody in 7 days", x.nobody(7), 103);
     Due.is("nobody in 99 days", x.nobody(99), 103);
     Due.all("nobody wrong", BAD, x.nobody(-1), x.nobody(100));
     x.day();
     x.walk(0, 0);
-    Due.is("nobody, one met later", x.nobody(3), 102);
+    Due.is("nobody, one met later", x.nobody(3), 98);
     Due.is("nobody where nobody is", Due.landOf("f1,2;l0,1,1;r0,1,1;o0,1,1;").nobody(0), 5);
   }
 
