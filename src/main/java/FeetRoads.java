@@ -335,7 +335,7 @@ public final class FeetRoads {
             return BAD;
         }
         asker.clearTrace();
-        return asker.answer(road, what);
+        return asker.answer(road, what, 0);
     }
 
     public int trace(int i) {
@@ -643,7 +643,7 @@ public final class FeetRoads {
         /** The last day on which a road of that kind opens to a sole that it met, if it met it often enough. */
         int lastDayOpen(int road, int sole) {
             int daysKept = kindOf(road) == Kinds.OLD ? 2 * fade() : fade();
-            return lastMet(road, sole) + daysKept;
+            return cells[LAST_AT + meeting(road, sole)] + daysKept;
         }
 
         boolean opens(int road, int sole, int onDay) {
@@ -1294,11 +1294,8 @@ public final class FeetRoads {
             return i >= 0 && i < traced ? trace[i] : NONE;
         }
 
-        int answer(int road, int what) {
-            return askAnew(road, what, 0);
-        }
-
-        private int askAnew(int road, int what, int depth) {
+        /** Bodies ask here anew, one deeper each time. */
+        int answer(int road, int what, int depth) {
             return begin(bodyFor(land.kindOf(road), what), road, depth + 1);
         }
 
@@ -1323,14 +1320,14 @@ public final class FeetRoads {
             int deeper = depth + 1;
             switch (body) {
                 case 10: return land.longOf(road);
-                case 11: return begin(10, road, deeper) + askAnew(road, MARK, deeper);
+                case 11: return begin(10, road, deeper) + answer(road, MARK, deeper);
                 case 12: return -begin(11, road, deeper);
                 case 13: return begin(10, road, deeper) - 100;
                 case 14: return begin(13, road, deeper) * 2;
                 case 20: return road;
                 case 21: return begin(20, road, deeper) + Integer.bitCount(land.solesOf(road, land.today()));
                 case 22: return begin(21, road, deeper) - 1000;
-                case 23: return begin(20, road, deeper) - askAnew(road, SIZE, deeper);
+                case 23: return begin(20, road, deeper) - answer(road, SIZE, deeper);
                 case 24: return begin(21, road, deeper) * 2;
                 default: return 0;
             }

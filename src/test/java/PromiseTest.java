@@ -2,9 +2,7 @@
 public final class PromiseTest {
   private static final int NONE = FeetRoads.NONE, BAD = FeetRoads.BAD, STATE = FeetRoads.STATE, FULL = FeetRoads.FULL;
 
-  /** Six places; lanes 0, 5, 6, a narrow one 1, an old one 2, a highway 3, a river 4; nobody gets to place 5. */
-  private static final String TOWN =
-      "f3,6;l0,1,4;n1,2,3;o2,3,5;h3,4,2;r4,0,6;l2,0,9;l1,4,1;p0,97;p1,6;p4,0;";
+  private static final String TOWN = Due.TOWN;
 
   public static void main(String[] args) {
     newObject();
@@ -156,14 +154,6 @@ public final class PromiseTest {
     Due.is("the land after " + text, x.count(4) * 100 + x.count(5) * 10 + x.count(7), 911);
   }
 
-  private static String times(String text, int n) {
-    StringBuilder all = new StringBuilder();
-    for (int i = 0; i < n; i++) {
-      all.append(text);
-    }
-    return all.toString();
-  }
-
   private static void landFaults() {
     refusedText("", 0, 1);
     refusedText("f", 1, 1);
@@ -197,12 +187,12 @@ public final class PromiseTest {
     refusedText("f1,2;p0,0;l0,1,1;", 10, 1);
     refusedText("f1,2;p0,0;x", 10, 1);
     refusedText("f1,2;p0,0;f", 10, 1);
-    refusedText("f1,2;" + times("l0,1,1;", 9) + "h", 68, 3);
-    refusedText("f1,2;" + times("l0,1,1;", 9) + "x", 68, 1);
-    refusedText("f1,2;" + times("l0,1,1;", 9) + "p0,0;h", 73, 1);
-    refusedText("f1,2;" + times("p0,0;", 4) + "p", 25, 3);
-    refusedText("f1,2;" + times("p0,0;", 4) + "l", 25, 1);
-    refusedText("f1,2;" + times("l0,1,1;", 9) + "p0,512;", 71, 2);
+    refusedText("f1,2;" + Due.times("l0,1,1;", 9) + "h", 68, 3);
+    refusedText("f1,2;" + Due.times("l0,1,1;", 9) + "x", 68, 1);
+    refusedText("f1,2;" + Due.times("l0,1,1;", 9) + "p0,0;h", 73, 1);
+    refusedText("f1,2;" + Due.times("p0,0;", 4) + "p", 25, 3);
+    refusedText("f1,2;" + Due.times("p0,0;", 4) + "l", 25, 1);
+    refusedText("f1,2;" + Due.times("l0,1,1;", 9) + "p0,512;", 71, 2);
     // a run of more than three figures is no token
     refusedText("f0001,2;", 1, 1);
     refusedText("f1,2;l0,1,1;p0,0001;", 15, 1);
@@ -215,7 +205,7 @@ public final class PromiseTest {
     FeetRoads x = Due.fed(new FeetRoads(), "f001,002;");
     Due.is("land without people", x.land(), 0);
     Due.is("land without people stands", x.day(), 1);
-    Due.fed(x, "f30,8;" + times("l0,7,9;", 9) + times("p7,511;", 4));
+    Due.fed(x, "f30,8;" + Due.times("l0,7,9;", 9) + Due.times("p7,511;", 4));
     Due.is("a full land", x.land(), 4);
     Due.is("day anew", x.count(5), 0);
     Due.is("acts anew", x.count(7), 0);
@@ -297,24 +287,18 @@ public final class PromiseTest {
     x.lead(0, 1, 0);
     Due.is("an old one that met once", x.road(0, 3), 3);
     Due.is("it met once", x.met(0, 1, 0), 1);
-    days(x, 4);
+    Due.days(x, 4);
     Due.is("an old one, twice FADE days later", x.road(0, 3), 3);
     Due.is("an old one, twice FADE days later, by the person", x.person(1, 2), 1);
     x.walk(1, 0);
     x.day();
     Due.is("an old one, one day more", x.road(0, 3), 2);
     Due.is("walk an old one that forgot", x.walk(0, 0), STATE);
-    days(x, 3);
+    Due.days(x, 3);
     Due.is("an old one: the last meeting counts", x.road(0, 3), 2);
     x.day();
     Due.is("an old one that forgot", x.road(0, 3), 0);
     Due.is("an old one still counts", x.met(0, 1, 0), 2);
-  }
-
-  private static void days(FeetRoads x, int number) {
-    for (int k = 0; k < number; k++) {
-      x.day();
-    }
   }
 
   private static void lead() {
@@ -507,7 +491,7 @@ public final class PromiseTest {
     Due.is("forgets: all met today", x.forgets(), 4);
     FeetRoads old = Due.landOf("f3,2;o0,1,1;p0,1;");
     Due.is("forgets: an old one, behind twice FADE", old.forgets(), 7);
-    days(old, 6);
+    Due.days(old, 6);
     Due.is("forgets: an old one, tomorrow", old.forgets(), 1);
     old.day();
     Due.is("forgets: an old one that forgot", old.forgets(), NONE);
@@ -563,7 +547,7 @@ public final class PromiseTest {
     Due.is("bars: it is there, which", x.bars(0, 0, 1), NONE);
     Due.all("bars wrong", BAD, x.bars(3, 0, 0), x.bars(0, 6, 0), x.bars(0, 0, 2), x.bars(0, 0, -1), x.bars(-1, 0, 0),
         x.bars(0, -1, 0));
-    FeetRoads y = Due.landOf("f1,2;" + times("h0,1,1;", 9) + "p0,0;");
+    FeetRoads y = Due.landOf("f1,2;" + Due.times("h0,1,1;", 9) + "p0,0;");
     Due.is("bars: all nine", y.bars(0, 1, 0), 9);
     Due.is("bars: all nine, which", y.bars(0, 1, 1), 511);
     FeetRoads z = Due.landOf("f1,3;h1,2,1;h1,2,1;h0,1,1;p0,0;");
@@ -619,7 +603,7 @@ public final class PromiseTest {
     Due.is("snow nowhere", x.snow(0, 5, 4, 0) * 10 + x.snow(0, 5, 4, 1), 1);
     Due.all("snow wrong", BAD, x.snow(3, 0, 0, 0), x.snow(-1, 0, 0, 0), x.snow(0, 6, 0, 0), x.snow(0, -1, 0, 0),
         x.snow(0, 0, 11, 0), x.snow(0, 0, -1, 0), x.snow(0, 0, 0, 2), x.snow(0, 0, 0, -1));
-    FeetRoads y = Due.landOf("f1,2;" + times("h0,1,1;", 9) + "p0,0;");
+    FeetRoads y = Due.landOf("f1,2;" + Due.times("h0,1,1;", 9) + "p0,0;");
     Due.is("snow on nine, above", y.snow(0, 1, 9, 0), 1000000000L - 387420489L);
     Due.is("snow on nine, below", y.snow(0, 1, 9, 1), 1000000000L);
   }
