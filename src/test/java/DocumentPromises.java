@@ -1,3 +1,6 @@
+import java.util.List;
+import java.util.function.ToLongFunction;
+
 /** The document's promises 1 to 36 and its last section, sentence by sentence. */
 final class DocumentPromises {
   private static final int NONE = Due.NONE, BAD = Due.BAD, STATE = Due.STATE, FULL = Due.FULL;
@@ -462,6 +465,13 @@ final class DocumentPromises {
     Document.says("0: it had none, or there was none.");
     x.whose(0, 0, 1, 0);
     Due.is("it had none", x.status(), 0);
+    List<ToLongFunction<FeetRoads>> well = List.of(y -> y.row(2, 0, 1), y -> y.set(0, 0, 1), y -> y.copy(0, 0, 0, 0, 1),
+        y -> y.drop(2), y -> y.as(0, 1));
+    for (int k = 0; k < well.size(); k++) {
+      x.drop(7);
+      well.get(k).applyAsLong(x);
+      Due.is("call " + k + " with a ROW, or as(), had none", x.status(), 0);
+    }
     Due.is("there was none", new FeetRoads().status(), 0);
   }
 
